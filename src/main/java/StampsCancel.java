@@ -699,7 +699,7 @@ public final class StampsCancel {
         }
 
         int openLanes() {
-            return openGates() & ~watched;
+            return (1 << gates) - 1 & ~shut & ~watched;
         }
     }
 
@@ -721,7 +721,7 @@ public final class StampsCancel {
         }
 
         boolean strikes(int letter) {
-            return size > 0 && at(size - 1) == (letter ^ 1);
+            return size > 0 && stamps[size - 1] == (letter ^ 1);
         }
 
         void stamp(int letter) {
@@ -820,13 +820,17 @@ public final class StampsCancel {
 
         void measure(Land land, int gates) {
             layOut(land, gates);
-            spreadFromAll();
+            for (int town = 0; town < TOWNS; town++) {
+                spread(town);
+            }
         }
 
         void measureLinked(Land land, int gates, int a, int b) {
             layOut(land, gates);
             link(a, b);
-            spreadFromAll();
+            for (int town = 0; town < TOWNS; town++) {
+                spread(town);
+            }
         }
 
         void measureFrom(Land land, int gates, int source) {
@@ -886,15 +890,9 @@ public final class StampsCancel {
         }
 
         private void link(int a, int b) {
-            if (isTown(a) && isTown(b)) {
+            if (a >= 0 && a < TOWNS && b >= 0 && b < TOWNS) {
                 beside[a] |= 1 << b;
                 beside[b] |= 1 << a;
-            }
-        }
-
-        private void spreadFromAll() {
-            for (int town = 0; town < TOWNS; town++) {
-                spread(town);
             }
         }
 
@@ -903,11 +901,13 @@ public final class StampsCancel {
             Arrays.fill(row, NONE);
             row[source] = 0;
             queue[0] = source;
-            int queued = 1;
+            int queued = 1, seen = 1 << source;
             for (int head = 0; head < queued && head < TOWNS; head++) {
                 int here = queue[head];
-                for (int there = 0; there < TOWNS; there++) {
-                    if ((beside[here] >> there & 1) == 1 && row[there] == NONE && queued < TOWNS) {
+                int fresh = beside[here] & ~seen;
+                seen |= fresh;
+                for (int there = 0; there < TOWNS && fresh >> there != 0; there++) {
+                    if ((fresh >> there & 1) == 1 && queued < TOWNS) {
                         row[there] = row[here] + 1;
                         queue[queued] = there;
                         queued++;
@@ -1179,6 +1179,9 @@ public final class StampsCancel {
     private static final class Walks {
         private static final int TIMES = MOST_STEPS + 1;
         private final Land land;
+        private final Distances lanes = new Distances();
+        /** By TOWN: those that lanes join with it, as bits. */
+        private final int[] joined = new int[TOWNS];
         /** By letter: ways that begin behind it and never strike it out; by length and TOWN. */
         private final long[][] behind = new long[LETTERS][TIMES * TOWNS];
         /** All rounds from a TOWN, by length and TOWN. */
@@ -1192,9 +1195,10 @@ public final class StampsCancel {
         }
 
         long number(int from, Paper paper, int to, int n) {
-            if (paper.size() > n || n >= TIMES || !isTown(to)) {
+            if (paper.size() > n || n >= TIMES || !isTown(from) || !isTown(to)) {
                 return 0;
             }
+            joinTowns();
             countRounds(n);
             Arrays.fill(entered, 0);
             entered[0] = 1;
@@ -1210,6 +1214,13 @@ public final class StampsCancel {
             return sofar[n * TOWNS + to];
         }
 
+        private void joinTowns() {
+            lanes.measure(land, land.openLanes());
+            for (int town = 0; town < TOWNS; town++) {
+                joined[town] = lanes.reachedFrom(town);
+            }
+        }
+
         private void stampForGood(int letter, int n) {
             int town = land.from(letter);
             entered[0] = 0;
@@ -1222,7 +1233,7 @@ public final class StampsCancel {
             Arrays.fill(sofar, 0);
             for (int length = 0; length <= n; length++) {
                 sofar[length * TOWNS + town] = entered[length];
-                lengthen(sofar, last, length);
+                lengthen(sofar, town, last, length);
             }
         }
 
@@ -1236,37 +1247,50 @@ public final class StampsCancel {
             for (int length = 0; length + 2 <= n; length++) {
                 for (int letter = 0; letter < land.letters(); letter++) {
                     if (land.isOpen(letter) && land.isWatched(letter)) {
-                        lengthen(behind[letter], letter, length);
-                        rounds[(length + 2) * TOWNS + land.from(letter)] += roundsBy(letter, length + 2);
+                        int there = land.to(letter);
+                        lengthen(behind[letter], there, letter, length);
+                        rounds[(length + 2) * TOWNS + land.from(letter)] += behind[letter][length * TOWNS + there];
                     }
                 }
             }
         }
 
-        private long roundsBy(int letter, int length) {
-            return behind[letter][(length - 2) * TOWNS + land.to(letter)];
-        }
-
-        /** Adds the ways of this length that are shorter ones and a GATE, or shorter ones and a round. */
-        private void lengthen(long[] row, int last, int length) {
-            for (int letter = 0; letter < land.letters() && length > 0; letter++) {
-                if (land.isOpen(letter) && !land.isWatched(letter)) {
-                    row[length * TOWNS + land.to(letter)] += row[(length - 1) * TOWNS + land.from(letter)];
-                }
+        /**
+         * Adds the ways of this length that are shorter ones and a GATE, or shorter ones and a round.
+         * Neither leads out of the TOWNS that lanes join with the one where the ways began.
+         */
+        private void lengthen(long[] row, int begun, int last, int length) {
+            if (length > 0) {
+                goOnByLanes(row, length);
             }
             for (int town = 0; town < TOWNS; town++) {
-                row[length * TOWNS + town] += behindRounds(row, last, length, town);
+                if ((joined[begun] >> town & 1) == 1) {
+                    row[length * TOWNS + town] += behindRounds(row, last, length, town);
+                }
+            }
+        }
+
+        private void goOnByLanes(long[] row, int length) {
+            int open = land.openLanes();
+            int now = length * TOWNS, before = now - TOWNS;
+            for (int gate = 0; gate < land.gatesTold() && open != 0; gate++) {
+                if ((open >> gate & 1) == 1) {
+                    int one = land.from(2 * gate), two = land.to(2 * gate);
+                    row[now + two] += row[before + one];
+                    row[now + one] += row[before + two];
+                }
             }
         }
 
         private long behindRounds(long[] row, int last, int length, int town) {
             // Back through the last stamp's gate is no round: it strikes out that stamp.
             boolean strikes = last != NONE && land.to(last) == town;
+            int back = strikes ? land.from(last) : NONE;
             long sum = 0;
             for (int round = 2; round <= length; round++) {
                 long before = row[(length - round) * TOWNS + town];
                 if (before != 0) {
-                    long barred = strikes ? roundsBy(last ^ 1, round) : 0;
+                    long barred = strikes ? behind[last ^ 1][(round - 2) * TOWNS + back] : 0;
                     sum += before * (rounds[round * TOWNS + town] - barred);
                 }
             }
@@ -1342,17 +1366,25 @@ public final class StampsCancel {
             return slipping;
         }
 
-        /** Nobody SLIPS by PLACES that have one of the unlike ones of each bad and good pair. */
+        /**
+         * Nobody SLIPS by PLACES that have one of the unlike ones of each bad and good pair; a PLACE
+         * that is unlike in no pair is of no use, so none needs more than all that are in some.
+         */
         int fewestPlaces() {
             int pairs = gatherUnlike();
-            int fewest = NONE;
-            for (int places = 0; places <= ALL_PLACES; places++) {
-                boolean fewer = fewest == NONE || Integer.bitCount(places) < Integer.bitCount(fewest);
-                if (fewer && partsAll(places, pairs)) {
-                    fewest = places;
+            int useful = 0;
+            for (int pair = 0; pair < pairs; pair++) {
+                useful |= unlike[pair];
+            }
+            int best = NONE, bestCount = PLACES + 1;
+            for (int places = 0; places <= useful; places++) {
+                int count = Integer.bitCount(places);
+                if (count < bestCount && partsAll(places, pairs)) {
+                    best = places;
+                    bestCount = count;
                 }
             }
-            return fewest;
+            return best;
         }
 
         private int gatherUnlike() {

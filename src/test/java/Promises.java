@@ -641,6 +641,16 @@ public final class Promises {
     tell(z, 2, "aa");
     z.list(2, 0);
     due("two of three", z.fewest(), 5);
+    StampsCancel all = of("00;00", "aaaaaaaaaaa");
+    all.list(1, 1);
+    for (int place = 0; place < 11; place++) {
+      due("the places ahead", all.fewest(), (1 << place) - 1);
+      StringBuilder unlike = new StringBuilder("aaaaaaaaaaa");
+      unlike.setCharAt(place, 'b');
+      tell(all, 2, unlike.toString());
+      all.list(2, 0);
+    }
+    due("all places", all.fewest(), 2047);
   }
 
   private static void far() {
