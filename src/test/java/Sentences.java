@@ -38,8 +38,7 @@ public final class Sentences {
       int end = part.indexOf('\n');
       String title = part.substring(0, end), text = part.substring(end);
       if (title.equals("What it is")) {
-        int begin = text.indexOf("======== 1 "), over = text.indexOf("An object is used");
-        sections.merge(TERMS, plain(text.substring(begin, over)), (a, b) -> a + " " + b);
+        sections.merge(TERMS, plain(text.substring(text.indexOf("======== 1 "))), (a, b) -> a + " " + b);
       } else if (title.equals(TERMS)) {
         sections.merge(TERMS, plain(text.substring(0, text.indexOf("Ahead of the calls"))), (a, b) -> a + " " + b);
       } else if (title.startsWith("Promise ")) {

@@ -74,6 +74,13 @@ final class SentencesOfClerks extends Sentence {
       due("one that is not good", x.lets(1, 0), 0);
       due("nor with places", x.lets(1, 1), 0);
       due("nobody slips", x.slips(0), 0);
+      x.list(1, 1);
+      due("a good one", x.lets(1, 0), 1);
+      x.unlist();
+      due("the good one is off again", x.lets(1, 0), 0);
+      due("nobody slips", x.slips(0), 0);
+      for (int k = 1; k < 12; k++) x.list(1, 0);
+      due("of twelve that are not good", x.lets(1, 0), 0);
     });
     says("with no PLACES all, if there is one).", () -> {
       StampsCancel x = of("00", "a", "AA", "");
@@ -117,6 +124,14 @@ final class SentencesOfClerks extends Sentence {
       y.list(2, 0);
       y.list(3, 0);
       due("one greater place for two lesser ones", y.fewest(), 4);
+      StampsCancel z = of("00;00", "aab", "aaa", "bab");
+      z.list(1, 0);
+      z.list(2, 1);
+      due("the first one listed is to be seen", z.fewest(), 4);
+      z.list(3, 0);
+      due("with a last one", z.fewest(), 4);
+      z.list(3, 1);
+      due("that one is good as well", z.fewest(), NONE);
     });
   }
 
@@ -208,6 +223,10 @@ final class SentencesOfClerks extends Sentence {
       for (int k = 0; k < 9; k++) x.list(1, 0);
       lay(x, 0, 0, bytes("a?aa?"));
       due("three", x.read(0), 3);
+      dueListed(x, 8, "a");
+      dueListed(x, 9, "a");
+      dueListed(x, 10, "aa");
+      dueListed(x, 11, "");
       due("good ones", x.count(7), 3);
       due("twelve", x.count(6), 12);
       due("none more", x.read(0), 0);

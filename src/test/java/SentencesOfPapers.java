@@ -126,6 +126,12 @@ final class SentencesOfPapers extends Sentence {
       dueShortest(x, 1, 2, 1, 1, NONE, 0);
       dueShortest(x, 1, 2, 3, 1, 2, 1);
       dueShortest(x, 0, 1, 3, 0, 5, 1);
+      StampsCancel y = of("01;12", "A", "BA", "B");
+      dueShortest(y, 0, 1, 1, 0, 1, 1);
+      dueLeast(y, 0, 1, 1, 0, "a");
+      dueShortest(y, 0, 2, 2, 0, 2, 1);
+      dueLeast(y, 0, 2, 2, 0, "ab");
+      dueShortest(y, 0, 2, 1, 3, 1, 1);
     });
     says("(SHUT ones left aside;", () -> {
       StampsCancel x = of("01;12u;13u;32u", "a");
@@ -165,6 +171,12 @@ final class SentencesOfPapers extends Sentence {
       dueShortest(z, 0, 0, 2, 0, 2, 2);
       z.shut(0);
       dueShortest(z, 0, 0, 2, 0, 1, 1);
+      StampsCancel u = of("01u;01u;01u");
+      dueShortest(u, 0, 0, 1, 0, 1, 3);
+      tell(u, 0, "01u;01u");
+      dueShortest(u, 0, 0, 1, 0, 1, 2);
+      type(u, 0, ";01u;");
+      dueShortest(u, 0, 0, 1, 0, NONE, 0);
     });
     says("the least of these as a row (by the bytes of their letters).", () -> {
       StampsCancel x = of("01u;12u;10u;21u;02;r1", "e");
@@ -286,6 +298,13 @@ final class SentencesOfPapers extends Sentence {
       due("12 gates, clean", y.many(0, 3, 0, 12), 924);
       StampsCancel z = of("00u;00u;00u;00u;00u;00u;00u;00u;00u");
       due("18 to the 12th", z.many(0, 1, 0, 12), 1156831381426176L);
+      StampsCancel u = of("01;23u", "", "A");
+      due("an unwatched one behind a watched one", u.many(2, 1, 3, 1), 1);
+      due("the other way about", u.many(3, 1, 2, 1), 1);
+      due("bBb", u.many(2, 1, 3, 3), 1);
+      due("A", u.many(1, 2, 0, 1), 1);
+      due("AaA", u.many(1, 2, 0, 3), 1);
+      due("AaAaA", u.many(1, 2, 0, 5), 1);
     });
     says("(no SHUT ones; whatever ROOM).", () -> {
       StampsCancel x = of("00;00;r1", "aa", "a", "");

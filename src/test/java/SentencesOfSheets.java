@@ -379,6 +379,11 @@ final class SentencesOfSheets extends Sentence {
       for (int told : new int[] {2, 1, 6, 0, 0, 0, 0, 0, NONE, NONE, NONE, NONE, 11}) h = and(h, told);
       for (int told : new int[] {0, 7, 1, 0, 1, 0, 7, 1, 0, 1, 0, 0}) h = and(h, told);
       due("digest()", x.digest(), ways(x, h));
+      StampsCancel y = of("01;12;20", "", "", "");
+      h = 17;
+      for (int told : new int[] {3, 3, 8, 0, 0, 0, 0, 0, NONE, NONE, NONE, NONE, 11}) h = and(h, told);
+      for (int told : new int[] {0, 1, 1, 0, 1, 1, 1, 2, 1, 0, 1, 1, 2, 0, 1, 0, 1, 1}) h = and(h, told);
+      due("digest() of a round of gates", y.digest(), ways(y, h));
     });
     says("of WAYS paper() NONE and all stamps, judged() 0 to 4 from TOWN 0, clean, found() 0, 1, shortest() from 0, clean, to the TOWN where JUDGED is, with its PAPER, 0, 1, many() from 0 to that TOWN, 6", () -> {
       StampsCancel x = of("01;12u;r1", "ab", "aa", "aA");
@@ -394,33 +399,42 @@ final class SentencesOfSheets extends Sentence {
       StampsCancel x = of("01;12u", "bab", "a", "aaaaa");
       x.list(1, 1);
       x.list(3, 0);
-      long h = 17;
-      for (int k = 0; k <= 7; k++) h = and(h, x.count(k));
-      for (int k = 0; k <= 3; k++) h = and(h, x.fault(k));
-      h = and(h, x.room());
-      for (int g = 0; g < 2; g++) {
-        for (int k = 0; k <= 3; k++) h = and(h, x.gate(g, k));
-        h = and(and(h, x.without(g, 0)), x.without(g, 1));
-      }
+      long h = texts(x);
       for (int way = 1; way <= 3; way++) h = way(x, h, way);
       h = and(h, 1);
       for (int told : new int[] {7, 0, 0, 0, 7, 1, 1, 2, 7, 2, 1, 4}) h = and(h, told);
       for (int town = 3; town < 8; town++) for (int told : new int[] {1 << town, NONE, NONE, NONE}) h = and(h, told);
       due("digest()", x.digest(), and(and(h, 0), 2));
+      StampsCancel y = of("00;00", "aaaa", "aaab", "baaa");
+      y.list(1, 1);
+      y.list(2, 0);
+      y.list(3, 0);
+      y.list(3, 0);
+      h = texts(y);
+      for (int way = 1; way <= 3; way++) h = way(y, h, way);
+      h = and(h, 0);
+      for (int told : new int[] {1, 0, 0, 0}) h = and(h, told);
+      for (int town = 1; town < 8; town++) for (int told : new int[] {1 << town, NONE, NONE, NONE}) h = and(h, told);
+      due("digest() with one of three that slips", y.digest(), and(and(h, 1), 1 + 8));
     });
     says("; as longs that wrap.", () -> {
       StampsCancel x = of("10;01u;01u;01u;01u;01u;01u;01u;01u", "aaaaaaaaaaa", "BABABABABABABABABABABA");
       due("ways", x.shortest(0, 0, 1, 2, 1), 1L << 30);
-      long h = 17;
-      for (int k = 0; k <= 7; k++) h = and(h, x.count(k));
-      for (int k = 0; k <= 3; k++) h = and(h, x.fault(k));
-      h = and(h, x.room());
-      for (int g = 0; g < 9; g++) {
-        for (int k = 0; k <= 3; k++) h = and(h, x.gate(g, k));
-        h = and(and(h, x.without(g, 0)), x.without(g, 1));
-      }
-      due("digest()", x.digest(), ways(x, h));
+      due("digest()", x.digest(), ways(x, texts(x)));
     });
+  }
+
+  /** Up to the GATES, by the answers of the other calls. */
+  private static long texts(StampsCancel x) {
+    long h = 17;
+    for (int k = 0; k <= 7; k++) h = and(h, x.count(k));
+    for (int k = 0; k <= 3; k++) h = and(h, x.fault(k));
+    h = and(h, x.room());
+    for (int g = 0; g < x.count(0); g++) {
+      for (int k = 0; k <= 3; k++) h = and(h, x.gate(g, k));
+      h = and(and(h, x.without(g, 0)), x.without(g, 1));
+    }
+    return h;
   }
 
   private static long way(StampsCancel x, long begun, int way) {

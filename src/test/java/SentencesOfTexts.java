@@ -4,6 +4,7 @@ final class SentencesOfTexts extends Sentence {
 
   static void all() {
     in("Terms");
+    says("An object is used for at most 512 calls after it has been made; what later calls answer is free.", SentencesOfTexts::lastCall);
     land();
     faults();
     ways();
@@ -172,6 +173,7 @@ final class SentencesOfTexts extends Sentence {
     says("of the first byte of a tenth GATE", () -> {
       dueFault(NINE, NONE);
       dueFault(NINE + ";12", 27);
+      dueFault(NINE + ";1", 27);
       dueFault(NINE + ";12u", 27);
       dueFault(NINE + ";12x", 27);
       dueFault(NINE + ";12;x", 27);
@@ -309,6 +311,18 @@ final class SentencesOfTexts extends Sentence {
       duePaper(x, 1, "ac");
       due("a way through none", x.judged(1, 0, 0, 0), 0);
     });
+  }
+
+  private static void lastCall() {
+    StampsCancel x = of("01;12u", "ab");
+    long first = x.digest();
+    int wipes = 2, types = 8, digests = 1;
+    for (int calls = wipes + types + digests; calls < 510; calls++) x.judged(1, calls & 7, calls & 3, calls % 5);
+    due("the 511th call", x.judged(1, 0, 0, 1), 2);
+    due("the 512th call", x.digest(), first);
+    int ended = 0;
+    for (int calls = 512; calls < 2048; calls++, ended++) x.many(calls & 7, 1, 2, calls % 14);
+    due("later calls end", ended, 2048 - 512);
   }
 
   private static void newObject() {
